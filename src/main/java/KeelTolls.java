@@ -4,8 +4,9 @@ public final class KeelTolls {
     public static final long LOST = Long.MIN_VALUE;
 
     private static final int MOST_HULLS = 16, MOST_STATIONS = 8, MOST_LAWS = 8, MOST_WORDS = 4, MOST_FACTORS = 3;
-    private static final int MOST_SHEETS = 4, MOST_CELLS = 60, GREATEST_PART = 9;
-    private static final int KINDS = 3, LANES = 3;
+    private static final int MOST_SHEETS = 4, MOST_CELLS = 60, GREATEST_PART = 9, KINDS = 3, LANES = 3;
+    // All shapes are gone through one by one, so they are of fewer and lesser parts than hulls may be.
+    private static final int SHAPE_STATIONS = 4, GREATEST_SHAPE_PART = 3;
 
     // The faults, by the numbers that fault() tells.
     private static final int NO_FAULT = 0, NULL = 1, CAST = 2, INDEX = 3, SIZE = 4;
@@ -558,7 +559,7 @@ public final class KeelTolls {
     }
 
     private static boolean areShapes(int n, int m, int kind) {
-        return n >= 1 && n <= 4 && m >= 1 && m <= 3 && isKind(kind);
+        return n >= 1 && n <= SHAPE_STATIONS && m >= 1 && m <= GREATEST_SHAPE_PART && isKind(kind);
     }
 
     private static int commonDivisor(int a, int b) {
@@ -949,7 +950,7 @@ public final class KeelTolls {
         int freeWorth = 0;
         int paid = 0;
         int holds = 0;
-        final int[] row = new int[2 * MOST_STATIONS];
+        final int[] row = new int[2 * SHAPE_STATIONS];
 
         void begin(Law by, int without) {
             law = by;

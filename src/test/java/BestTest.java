@@ -221,7 +221,10 @@ public final class BestTest {
         CHECK.due("step to less depth", x.step(0, NONE), 10);
         x.build(0, 0, 1, 1);
         CHECK.due("step to less breadth", x.step(0, NONE), 0);
-        CHECK.due("step(3, NONE)", x.step(3, NONE), -1);
+        Check.hull(x, 2, 9, 9, 9, 9, 9, 9, 9, 9, 9, 9, 9, 9, 9, 9, 9, 8);
+        x.need(4, 1);
+        CHECK.due("step of the eighth's depth", x.step(3, NONE), 711);
+        CHECK.due("step(4, NONE)", x.step(4, NONE), -1);
         CHECK.due("step(-1, 0)", x.step(-1, 0), -1);
         CHECK.due("step(0, 1)", x.step(0, 1), -1);
     }
@@ -326,6 +329,8 @@ public final class BestTest {
         CHECK.due("paid(99, 0)", x.paid(99, 0), 2 + 96 * 27);
         x.need(2, 2);
         CHECK.due("paid(99, 0), by ENDS 2", x.paid(99, 0), 98);
+        x.build(0, 0, 1, 2);
+        CHECK.due("paid(1, 0), by the least FREIGHT", x.paid(1, 0), 1);
         CHECK.due("paid(0, NONE)", x.paid(0, NONE), -1);
         CHECK.due("paid(0, 1)", x.paid(0, 1), -1);
         CHECK.due("paid(0, 0)", x.paid(0, 0), -2);

@@ -77,6 +77,8 @@ public final class NeedsTest {
         dueBroken(x, 0, 2, 0);
         Check.hull(x, 0, 4, 1);
         dueBroken(x, 1, 2, 0);
+        Check.hull(x, 0, 3, 1, 9, 9, 9, 9, 9, 9, 4, 1);
+        dueBroken(x, 2, 2, 4);
     }
 
     private static void least() {
@@ -140,8 +142,11 @@ public final class NeedsTest {
         Check.hull(x, 2, 1, 9);
         CHECK.due("risk 8 by 9, upper", x.risk(3, 0), 8);
         CHECK.due("risk 8 by 9, lower", x.risk(3, 1), 9);
+        Check.hull(x, 0, 1, 2, 1, 2, 1, 2, 1, 2, 1, 2, 1, 2, 1, 3, 1, 4);
+        CHECK.due("risk 11 by 72, upper", x.risk(4, 0), 11);
+        CHECK.due("risk 11 by 72, lower", x.risk(4, 1), 72);
         CHECK.due("risk(0, 2)", x.risk(0, 2), Check.LOST);
         CHECK.due("risk(0, -1)", x.risk(0, -1), Check.LOST);
-        CHECK.due("risk(4, 0)", x.risk(4, 0), Check.LOST);
+        CHECK.due("risk(5, 0)", x.risk(5, 0), Check.LOST);
     }
 }

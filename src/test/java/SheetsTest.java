@@ -96,6 +96,9 @@ public final class SheetsTest {
         dueFault(x, "cell(0, 0, 2)", x.cell(0, 0, 2), 0, 0);
         x.sheet(0, 2, 0);
         dueFault(x, "cell of none", x.cell(0, 0, 2), LOST, 3);
+        dueFault(x, "cell(4, 0, 0) after a fault", x.cell(4, 0, 0), LOST, 0);
+        x.cell(0, 0, 2);
+        dueFault(x, "cell(0, 0, 3) after a fault", x.cell(0, 0, 3), LOST, 0);
     }
 
     private static void lay(KeelTolls x, int k, int lane, int... values) {
@@ -147,7 +150,9 @@ public final class SheetsTest {
         dueFault(x, "copy, n beyond the other", x.copy(1, 0, 0, 0, 4), -13, 3);
         dueFault(x, "copy, n far beyond", x.copy(1, 1, 0, 1, Integer.MAX_VALUE), -13, 3);
         CHECK.dueAll("the other as it was", read(x, 1, 1, 4), 7, 8, 9, 10);
-        dueFault(x, "copy", x.copy(0, 0, 1, 1, 3), 3, 0);
+        dueFault(x, "copy after a fault", x.copy(0, 0, 1, 1, 3), 3, 0);
+        x.copy(0, 0, 1, 0, -1);
+        dueFault(x, "copy, sheet 4, after a fault", x.copy(4, 0, 1, 0, 1), -1, 0);
     }
 
     private static void telling() {
