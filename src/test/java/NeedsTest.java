@@ -79,6 +79,8 @@ public final class NeedsTest {
         dueBroken(x, 1, 2, 0);
         Check.hull(x, 0, 3, 1, 9, 9, 9, 9, 9, 9, 4, 1);
         dueBroken(x, 2, 2, 4);
+        x.build(2, 4, 0, 3);
+        dueBroken(x, 2, Check.NONE, Check.NONE);
     }
 
     private static void least() {
