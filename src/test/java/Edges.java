@@ -172,6 +172,10 @@ final class Edges {
                 all.add(run.call("station", h, k, 1));
             }
         }
+        int next = (int) run.hull(1, 2, 3, 4, 5);
+        for (int what = 0; what < 11; what++) {
+            all.add(run.call("ofHull", next, what));
+        }
     }
 
     private static void askLaws(Run run, List<Long> all) {
@@ -182,6 +186,10 @@ final class Edges {
                     all.add(run.call("word", h, l, w));
                 }
             }
+        }
+        int next = (int) run.law("A+S+B+D");
+        for (int w = 0; w < 4; w++) {
+            all.add(run.call("word", 0, next, w));
         }
     }
 

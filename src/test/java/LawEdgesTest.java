@@ -16,6 +16,7 @@ public final class LawEdgesTest {
         firstCodes();
         secondCodes();
         codesAsTheirLaneCutsThem();
+        aLawAfterAFault();
         lawUnknownOrOutside();
         lawCastOrNull();
         lawSize();
@@ -263,6 +264,27 @@ public final class LawEdgesTest {
         EDGES.due(ints, -101, "law", 0, 2, 0, 2);
         EDGES.due(ints, -100, "law", 0, 2, 2, 1);
         EDGES.due(ints, 0, "law", 0, 2, 0, 1);
+    }
+
+    private static void aLawAfterAFault() {
+        EDGES.sentence("REFUSALS change nothing: a LAW that comes after a TEXT with a FIRST FAULT is as if there was none");
+        String[] faults = {"9*8*7/2<5+9*8*7/2<5+9*8*7/2<5+9*8*7/2<5+", "L*B*D/2<5+L*B*D/2<5+L*B*D/2<5+L*B*D/2<5*",
+            "S*7*7/", "S*S*S<", "S*S*S*S"};
+        for (String fault : faults) {
+            Run run = new Run();
+            run.hull(0, 7, 5);
+            EDGES.same("law " + fault, run.law(fault) <= -100 ? 1 : 0, 1);
+            EDGES.same("law B+D+99+B*D", run.law("B+D+99+B*D"), 0);
+            int[] words = {7, 5, 99, 35};
+            for (int w = 0; w < 4; w++) {
+                EDGES.due(run, words[w], "word", 0, 0, w);
+            }
+            EDGES.same("law " + fault + ", again", run.law(fault) <= -100 ? 1 : 0, 1);
+            EDGES.same("law D", run.law("D"), 1);
+            EDGES.due(run, 5, "owes", 0, 1);
+            EDGES.due(run, 1, "words", 1);
+            EDGES.due(run, 146, "owes", 0, 0);
+        }
     }
 
     private static void lawUnknownOrOutside() {
